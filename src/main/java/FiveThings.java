@@ -130,7 +130,7 @@ public final class FiveThings {
             return STATE;
         }
         now.spend(1 << p);
-        int bundle = Integer.numberOfTrailingZeros(things);
+        int bundle = least(things);
         now.setBundle(things, bundle);
         return bundle;
     }
@@ -316,6 +316,15 @@ public final class FiveThings {
         return (bits >> i & 1) == 1;
     }
 
+    private static int least(int things) {
+        for (int t = 0; t < MOST_THINGS; t++) {
+            if (has(things, t)) {
+                return t;
+            }
+        }
+        return NONE;
+    }
+
     // The six kinds trust rate() that p is one of the people.
 
     private int asPerson(int p) {
@@ -377,19 +386,20 @@ public final class FiveThings {
 
         /** An END has the text's length as its place, as a FAULT there must. */
         void toNext() {
-            while (after < length && bytes[after] == BLANK) {
-                after++;
-            }
-            place = after;
-            if (after >= length) {
+            place = endOfRun(after, BLANK, BLANK);
+            int wordEnd = endOfRun(place, 'a', 'z');
+            int digitsEnd = endOfRun(place, '0', '9');
+            if (place >= length) {
                 token = END;
-            } else if (bytes[after] == ';') {
-                token = STOP;
-                after++;
-            } else if (isLetter(bytes[after])) {
-                takeWord();
-            } else if (isDigit(bytes[after])) {
+            } else if (wordEnd > place) {
+                token = WORD;
+                after = wordEnd;
+            } else if (digitsEnd > place) {
+                after = digitsEnd;
                 takeNumber();
+            } else if (bytes[place] == ';') {
+                token = STOP;
+                after = place + 1;
             } else {
                 token = WRONG;
             }
@@ -411,30 +421,26 @@ public final class FiveThings {
             return token == NUMBER && value >= least && value <= most;
         }
 
-        private void takeWord() {
-            while (after < length && isLetter(bytes[after])) {
-                after++;
+        private int endOfRun(int start, int low, int high) {
+            int end = start;
+            while (end >= 0 && end < length && bytes[end] >= low && bytes[end] <= high) {
+                end++;
             }
-            token = WORD;
+            return end;
         }
 
+        /** A third digit makes it more than 99, or stands behind a 0. */
         private void takeNumber() {
-            value = 0;
-            while (after < length && isDigit(bytes[after])) {
-                // 100 stands for all that is too much: the digits may be hundreds.
-                value = Math.min(10 * value + bytes[after] - '0', 100);
-                after++;
+            int digits = after - place;
+            if (digits > 2 || (digits == 2 && bytes[place] == '0')) {
+                token = WRONG;
+                return;
             }
-            boolean zeroAhead = bytes[place] == '0' && after - place > 1;
-            token = zeroAhead || value > 99 ? WRONG : NUMBER;
-        }
-
-        private static boolean isLetter(int b) {
-            return b >= 'a' && b <= 'z';
-        }
-
-        private static boolean isDigit(int b) {
-            return b >= '0' && b <= '9';
+            token = NUMBER;
+            value = 0;
+            for (int i = place; i < after; i++) {
+                value = 10 * value + bytes[i] - '0';
+            }
         }
     }
 
@@ -895,8 +901,9 @@ public final class FiveThings {
         private int bundleLifts() {
             int lifts = 0;
             for (int t = 0; t < house.things; t++) {
-                if (now.bundle[t] == t && leadsDueJob(t)) {
-                    lifts += house.handsOf(now.jobOf(t));
+                int job = now.jobOf(t);
+                if (now.bundle[t] == t && isDue(job)) {
+                    lifts += house.handsOf(job);
                 }
             }
             return lifts;

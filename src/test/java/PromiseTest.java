@@ -151,6 +151,10 @@ public final class PromiseTest {
         fault("rooms 2;rooms 2;", 8);
         fault("person 1 1;rooms 2;", 11);
         fault("room 2;", 0);
+        fault("zooms 2;", 0);
+        fault("persoo 1 1;", 0);
+        fault("person 1 009;", 9);
+        fault("person 1 109;", 9);
         fault("roomss 2;", 0);
         fault(" Rooms 2;", 1);
         fault("roomS 2;", 0);
@@ -489,6 +493,12 @@ public final class PromiseTest {
         same("17 what", x.due(-1), BAD);
         same("17 one without a task goes anywhere", barred().due(1), 11);
         same("17 with others", barred().due(0), 2);
+        FiveThings y = Check.told("person 9 0;thing 0 1;thing 0 1;thing 0 1;thing 0 1;thing 0 1;thing 0 1;"
+                + "task 0 1;task 1 2;task 2 0;task 3 3;task 4 1;task 5 1;");
+        y.tied(0, 3);
+        y.tied(0, 12);
+        y.tied(0, 48);
+        same("17 two barred bundles", y.due(1), 15);
     }
 
     private static void promise18Moved() {
@@ -521,6 +531,13 @@ public final class PromiseTest {
         same("18 where it was", x.moved(0, 0), 14);
         same("18 where it was not", x.moved(1, 0), 1);
         same("18 what", x.moved(0, -1), BAD);
+        FiveThings y = Check.told("person 9 0;person 8 0;person 9 0;person 1 0;thing 0 1;thing 0 1;thing 0 1;"
+                + "thing 0 1;thing 0 1;thing 0 1;thing 0 1;thing 0 1;");
+        y.keep(1);
+        y.tied(0, 255);
+        y.lifted(2, 3, 1);
+        same("18 all eight", y.moved(1, 0), 255);
+        same("18 three at will, the fourth once at most", y.moved(1, 1), 6561 + 8 * 2187);
     }
 
     private static void promise19Chain() {
@@ -534,6 +551,8 @@ public final class PromiseTest {
         same("19 each thing's hands", x.chain(0, 1), 2);
         x.dropped(1);
         same("19 lifts a day", x.chain(0, 1), 2);
+        same("19 once a day", Check.told("person 1 0;thing 0 3;thing 0 2;").chain(0, 3), 15);
+        same("19 the first has most", Check.told("person 5 0;person 1 0;thing 0 3;thing 0 2;").chain(0, 3), 3);
         same("19 no room", x.chain(4, 1), BAD);
         same("19 no room", x.chain(-1, 1), BAD);
         same("19 no gap", x.chain(0, 0), BAD);
