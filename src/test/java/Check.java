@@ -18,6 +18,20 @@ final class Check {
         same(what, isSo ? 1 : 0, 1);
     }
 
+    /** Says the first line in which they differ. */
+    static void alike(String what, String got, String due) {
+        holds(what + firstUnlike(got.split("\n"), due.split("\n")), got.equals(due));
+    }
+
+    private static String firstUnlike(String[] got, String[] due) {
+        for (int i = 0; i < got.length && i < due.length; i++) {
+            if (!got[i].equals(due[i])) {
+                return " (" + got[i] + ", without it " + due[i] + ")";
+            }
+        }
+        return "";
+    }
+
     static int wrong() {
         return wrong;
     }

@@ -2,13 +2,16 @@ import java.util.Random;
 
 /** Many runs of calls, always the same ones, whose every answer must be the model's. */
 public final class ModelTest {
-    private static final int RUNS = 1500, CALLS = 300;
+    private static final int RUNS = 6000;
+    /** An object is promised for 512 calls; one step of a run makes far fewer than the rest. */
+    private static final int PROMISED = 512, ENOUGH = 380;
 
     private final Random random;
     private final int run;
     private final FiveThings x = new FiveThings();
     private final Model m = new Model();
     private int rooms = 4, people = 0, things = 0;
+    private int calls = 0;
 
     private ModelTest(int run) {
         this.run = run;
@@ -24,12 +27,14 @@ public final class ModelTest {
 
     private void go() {
         tell(wellFormed());
-        for (int i = 0; i < CALLS; i++) {
+        for (int step = 0; step < ENOUGH && calls < ENOUGH; step++) {
             call();
         }
+        Check.holds("run " + run + ": no more calls than are promised", calls <= PROMISED);
     }
 
     private void same(String call, long got, long due) {
+        calls++;
         Check.same("run " + run + ": " + call, got, due);
     }
 
@@ -57,7 +62,7 @@ public final class ModelTest {
     private void type(String text) {
         int at = 0;
         while (at < text.length()) {
-            int n = Math.min(1 + upTo(7), text.length() - at);
+            int n = Math.min(upTo(3) == 0 ? 1 + upTo(7) : 8, text.length() - at);
             long v = n == 8 ? 0 : random.nextLong();
             for (int i = 0; i < n; i++) {
                 v = v << 8 | text.charAt(at + i);
