@@ -9,6 +9,10 @@ import java.nio.file.Path;
 import java.util.ArrayList;
 import java.util.Collections;
 import java.util.List;
+import java.util.Map;
+import java.util.Set;
+import java.util.TreeMap;
+import java.util.TreeSet;
 import java.util.regex.Matcher;
 import java.util.regex.Pattern;
 
@@ -24,10 +28,18 @@ public final class LanguageTest {
 
     public static void main(String[] args) throws IOException {
         face();
+        Path document = Path.of("../shared/DOC.md");
+        if (Files.exists(document)) {
+            faceOfTheDocument(Files.readString(document));
+        } else {
+            System.out.println("no " + document + ": its face was not compared");
+        }
         fields();
         String source = Files.readString(Path.of("src/main/java/FiveThings.java"));
         words(source);
+        library(source);
         methodLengths(source);
+        depth(source);
         madeByCalls();
         Check.end();
     }
@@ -54,6 +66,16 @@ public final class LanguageTest {
         Constructor<?>[] constructors = FiveThings.class.getDeclaredConstructors();
         Check.holds("one public constructor without arguments", constructors.length == 1
                 && Modifier.isPublic(constructors[0].getModifiers()) && constructors[0].getParameterCount() == 0);
+    }
+
+    private static void faceOfTheDocument(String document) {
+        List<String> told = new ArrayList<>();
+        Matcher m = Pattern.compile("    public (int|long) (\\w+)\\(([^)]*)\\);").matcher(document);
+        while (m.find()) {
+            String types = m.group(3).replaceAll(" \\w+(, |$)", "$1").replace(" ", "");
+            told.add(m.group(1) + " " + m.group(2) + "(" + types + ")");
+        }
+        Check.holds("the document's face is this one: " + told, told.equals(FACE));
     }
 
     private static String signature(Method method) {
@@ -86,7 +108,7 @@ public final class LanguageTest {
     }
 
     private static void words(String source) {
-        String code = source.replaceAll("(?s)/\\*.*?\\*/", "").replaceAll("//[^\\n]*", "");
+        String code = code(source);
         Matcher m = Pattern.compile("\\b(throw|throws|try|catch|finally|synchronized|assert|import|package|native"
                 + "|volatile|transient|double|float|System\\.(?!arraycopy)\\w+|Object|Thread|\\w+Exact|instanceof"
                 + "|hashCode|toString)\\b|->|::|@|\\bnew \\w+\\([^)]*\\) *\\{").matcher(code);
@@ -98,6 +120,55 @@ public final class LanguageTest {
                 Check.holds("plain signs alone, not " + source.charAt(i), false);
             }
         }
+    }
+
+    /** Rule 4: of the library the class uses this little alone, and no class but these and its own. */
+    private static void library(String source) {
+        String code = code(source);
+        Matcher calls = Pattern.compile("\\b[A-Z][a-z]\\w*\\.[a-z]\\w*").matcher(code);
+        while (calls.find()) {
+            Check.holds("rule 4: " + calls.group(), List.of("Math.min", "Math.max", "Integer.bitCount",
+                    "System.arraycopy").contains(calls.group()));
+        }
+        Matcher classes = Pattern.compile("\\b[A-Z][a-z]\\w*").matcher(code);
+        while (classes.find()) {
+            Check.holds("rule 3: " + classes.group(), List.of("FiveThings", "Text", "Reader", "House", "Now", "Work",
+                    "Ways", "String", "Math", "Integer", "System").contains(classes.group()));
+        }
+        Check.holds("rule 3: rows of one dimension", !code.replace(" ", "").contains("[]["));
+    }
+
+    private static String code(String source) {
+        return source.replaceAll("(?s)/\\*.*?\\*/", "").replaceAll("//[^\\n]*", "");
+    }
+
+    /** Rules 8 and 11: none comes back to itself, eight are open at most; methods of one name are one here. */
+    private static void depth(String source) {
+        Map<String, Set<String>> asks = new TreeMap<>();
+        Matcher m = Pattern.compile("(?m)^( +)(?:[\\w\\[\\]]+ )*(\\w+)\\([^()]*\\) \\{\\n((?:.*\\n)*?)\\1\\}")
+                .matcher(code(source));
+        while (m.find()) {
+            Matcher call = Pattern.compile("(\\w+)\\(").matcher(m.group(3));
+            Set<String> asked = asks.computeIfAbsent(m.group(2), name -> new TreeSet<>());
+            while (call.find()) {
+                asked.add(call.group(1));
+            }
+        }
+        Check.holds("methods were seen", asks.size() > 60);
+        for (String name : asks.keySet()) {
+            Check.holds("eight deep at most: " + name, deepest(asks, name, 0) <= 8);
+        }
+    }
+
+    private static int deepest(Map<String, Set<String>> asks, String name, int above) {
+        if (above > 8 || !asks.containsKey(name)) {
+            return above;
+        }
+        int most = above + 1;
+        for (String asked : asks.get(name)) {
+            most = Math.max(most, deepest(asks, asked, above + 1));
+        }
+        return most;
     }
 
     /** By the indentation that the file keeps: a method's end stands under its beginning. */
